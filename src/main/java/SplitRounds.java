@@ -441,11 +441,11 @@ public final class SplitRounds {
         return sum;
     }
 
-    /** The next plan by order that differs at a stage or ahead of it: where it does, 0 if there is none. */
+    /**
+     * The next plan by order that differs at a stage or ahead of it: where it does, 0 if there is none.
+     * Values behind that stage are 0 already, as no stage ahead of the latest raised one is ever the last.
+     */
     private int moveOn(int last) {
-        for (int stage = choices.count; stage > last; stage--) {
-            tried[stage - 1] = 0;
-        }
         for (int stage = last; stage > 0; stage--) {
             if (tried[stage - 1] + 1 < choices.sizes[stage - 1]) {
                 tried[stage - 1]++;
