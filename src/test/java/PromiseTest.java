@@ -64,21 +64,6 @@ public final class PromiseTest {
         Due.end();
     }
 
-    /** One choice of 0 to 2 (prices 0, 4, 9); the part needs 2 in all, and buys what lacks at 10 each. */
-    private static SplitRounds shop() {
-        SplitRounds x = new SplitRounds();
-        x.choice(3);
-        x.price(0, 1, 4);
-        x.price(0, 2, 9);
-        x.part();
-        x.join(0, 0);
-        x.local(0, 3, 10);
-        x.row(0, -2);
-        x.weigh(0, 0, true, 0, -1);
-        x.weigh(0, 0, false, 0, -1);
-        return x;
-    }
-
     private static void newObject() {
         SplitRounds x = new SplitRounds();
         int[] want = {0, 0, NONE, NONE, 1, 0, 0, 1, 0};
@@ -155,7 +140,7 @@ public final class PromiseTest {
         due("weight(-1, 3)", x.weight(-1, 3), UNKNOWN);
         due("told(4)", x.told(4), 25);
 
-        SplitRounds y = shop();
+        SplitRounds y = Plans.shop();
         y.future(5);
         due("judge, a weight for each future", y.judge(), 6 * 9);
         y.price(0, 2, NONE);
@@ -297,7 +282,7 @@ public final class PromiseTest {
     }
 
     private static void shifts() {
-        SplitRounds x = shop();
+        SplitRounds x = Plans.shop();
         x.future(2);
         due("shift(1, 0, 0, -1)", x.shift(1, 0, 0, -1), 0);
         due("future 0", x.answer(0, 0), 20);
@@ -330,7 +315,7 @@ public final class PromiseTest {
     }
 
     private static void runs() {
-        SplitRounds x = shop();
+        SplitRounds x = Plans.shop();
         due("run(1)", x.run(1), 2);
         dueRounds(x, 1, 1, 0, 20, 0);
         due("run(1)", x.run(1), 2);
@@ -377,37 +362,8 @@ public final class PromiseTest {
         due("judge()", x.judge(), NONE);
     }
 
-    /** Each plan costs at least 7 in each part and future, but a cut says so of few values only. */
-    private static SplitRounds endless() {
-        SplitRounds x = new SplitRounds();
-        for (int c = 0; c < 6; c++) {
-            x.choice(4);
-        }
-        for (int f = 1; f < 4; f++) {
-            x.future(1);
-        }
-        for (int p = 0; p < 4; p++) {
-            x.part();
-            for (int j = 0; j < 3; j++) {
-                x.join(p, (p + j) % 6);
-            }
-            x.row(p, -9);
-            x.row(p, 0);
-            for (int i = 0; i < 4; i++) {
-                x.local(p, 3, 7 + 3 * i);
-                x.weigh(p, 0, false, i, -1 - i);
-                x.weigh(p, 1, false, i, i - 1);
-            }
-            for (int j = 0; j < 3; j++) {
-                x.weigh(p, 0, true, (p + j) % 6, 3 - j * 2);
-                x.weigh(p, 1, true, (p + j) % 6, j * 2 - 3);
-            }
-        }
-        return x;
-    }
-
     private static void runsWithoutRoom() {
-        SplitRounds x = endless();
+        SplitRounds x = Plans.endless();
         int rounds = 0;
         for (int i = 0; i < 50 && x.told(1) < 200 && x.told(8) == 0; i++) {
             x.run(1);
@@ -436,7 +392,7 @@ public final class PromiseTest {
     }
 
     private static void toldBounds() {
-        SplitRounds x = shop();
+        SplitRounds x = Plans.shop();
         for (int n : new int[] {LEAST, -4, -1, 9, MOST}) {
             due("told(" + n + ")", x.told(n), OUTSIDE);
         }
@@ -457,7 +413,7 @@ public final class PromiseTest {
     }
 
     private static void bestMasterShare() {
-        SplitRounds x = shop();
+        SplitRounds x = Plans.shop();
         dueBest(x, NONE, NONE, NONE, NONE);
         x.run(1);
         dueBest(x, 0, 0, 20, 0);
@@ -481,7 +437,7 @@ public final class PromiseTest {
         x.run(50);
         dueBest(x, 1, 1, 10, 12);
 
-        SplitRounds y = shop();
+        SplitRounds y = Plans.shop();
         y.price(0, 0, 5);
         y.price(0, 1, 0);
         y.price(0, 2, 1);
@@ -496,7 +452,7 @@ public final class PromiseTest {
     }
 
     private static void asking() {
-        SplitRounds x = shop();
+        SplitRounds x = Plans.shop();
         due("ask(0, 2), at first 0", x.ask(0, 2), 0);
         due("ask(0, 2)", x.ask(0, 2), 2);
         due("ask(0, 1)", x.ask(0, 1), 2);
@@ -515,7 +471,7 @@ public final class PromiseTest {
     }
 
     private static void answers() {
-        SplitRounds x = shop();
+        SplitRounds x = Plans.shop();
         due("to 0", x.answer(0, 0), 20);
         x.ask(0, 1);
         due("to 1", x.answer(0, 0), 10);
@@ -582,7 +538,7 @@ public final class PromiseTest {
     }
 
     private static void cuts() {
-        SplitRounds x = shop();
+        SplitRounds x = Plans.shop();
         x.future(1);
         x.shift(1, 0, 0, -2);
         due("cut(0, 0)", x.cut(0, 0), UNKNOWN);
@@ -678,7 +634,7 @@ public final class PromiseTest {
 
     /** A bound stays true where the answer is NONE, and where it is more. */
     private static void reasonsOfBounds() {
-        SplitRounds x = shop();
+        SplitRounds x = Plans.shop();
         x.weigh(0, 0, true, 0, 1);
         x.run(1);
         dueCut(x, 0, 1, 0, 0, 20, 0, 0, 1);
@@ -695,7 +651,7 @@ public final class PromiseTest {
     }
 
     private static void judging() {
-        SplitRounds x = shop();
+        SplitRounds x = Plans.shop();
         due("judge()", x.judge(), 9);
         due("judge does no rounds", x.told(0), 0);
         due("judge brings no cuts", x.told(1), 0);
@@ -712,7 +668,7 @@ public final class PromiseTest {
         x.row(1, -1);
         due("a part that never answers", x.judge(), NONE);
 
-        SplitRounds y = endless();
+        SplitRounds y = Plans.endless();
         for (int c = 0; c < 6; c++) {
             for (int v = 0; v < 4; v++) {
                 y.price(c, v, 200 - v);
@@ -723,7 +679,7 @@ public final class PromiseTest {
 
     /** Two parts with a bound each; both are told of in turn. */
     private static SplitRounds twoParts() {
-        SplitRounds x = shop();
+        SplitRounds x = Plans.shop();
         x.choice(2);
         x.part();
         x.join(1, 1);
