@@ -443,7 +443,7 @@ public final class SplitRounds {
 
     /**
      * The next plan by order that differs at a stage or ahead of it: where it does, 0 if there is none.
-     * Values behind that stage are 0 already, as no stage ahead of the latest raised one is ever the last.
+     * Values behind the last stage are 0 already: a plan is never left ahead of the value raised latest.
      */
     private int moveOn(int last) {
         for (int stage = last; stage > 0; stage--) {

@@ -7,6 +7,9 @@ import java.nio.file.Files;
 import java.nio.file.Path;
 import java.util.ArrayList;
 import java.util.List;
+import java.util.Map;
+import java.util.Set;
+import java.util.TreeMap;
 import java.util.TreeSet;
 import java.util.regex.Matcher;
 import java.util.regex.Pattern;
@@ -15,6 +18,7 @@ import java.util.regex.Pattern;
 public final class LanguageTest {
     private static final Path SOURCE = Path.of("src/main/java/SplitRounds.java");
     private static final int LONGEST_METHOD = 60, MOST_PARAMETERS = 7, MOST_FIELDS = 20, MOST_CLASSES = 12;
+    private static final int MOST_DEPTH = 8;
 
     private static final List<String> FACE = List.of("choice", "price", "future", "weight", "part", "join", "local",
             "row", "weigh", "shift", "run", "told", "best", "master", "share", "ask", "answer", "unit", "cut",
@@ -30,7 +34,11 @@ public final class LanguageTest {
         }
         Due.holds("at most " + MOST_CLASSES + " classes", classes().size() <= MOST_CLASSES);
         words(Files.readString(SOURCE));
-        methodLengths(Files.readAllLines(SOURCE));
+        Map<String, String> bodies = shortMethods(Files.readAllLines(SOURCE));
+        for (String name : FACE) {
+            Due.holds("calls in " + name + " go at most " + MOST_DEPTH + " deep",
+                    bodies.containsKey(name) && depthOf(name, bodies, new TreeSet<>()) <= MOST_DEPTH);
+        }
         Due.end();
     }
 
@@ -114,20 +122,38 @@ public final class LanguageTest {
         }
     }
 
-    private static void methodLengths(List<String> lines) {
-        Pattern head = Pattern.compile("^( {4}| {8})(public |private |static )*\\w+(\\[])? \\w+\\(.*\\) \\{$");
-        int methods = 0;
+    /** Holds all methods short, and answers their bodies by name (bodies of one name together). */
+    private static Map<String, String> shortMethods(List<String> lines) {
+        Pattern head = Pattern.compile("^( {4}| {8})(public |private |static )*(\\w+(\\[])? )?(\\w+)\\(.*\\) \\{$");
+        Map<String, String> bodies = new TreeMap<>();
         for (int i = 0; i < lines.size(); i++) {
             Matcher matcher = head.matcher(lines.get(i));
-            if (matcher.matches()) {
-                methods++;
+            if (matcher.matches() && !List.of("if", "for", "while", "switch").contains(matcher.group(5))) {
                 int end = i;
                 while (end < lines.size() && !lines.get(end).equals(matcher.group(1) + "}")) {
                     end++;
                 }
                 Due.holds("line " + (i + 1) + " begins a short method", end < lines.size() && end - i < LONGEST_METHOD);
+                bodies.merge(matcher.group(5), withoutComments(String.join("\n", lines.subList(i + 1, end))), String::concat);
             }
         }
-        Due.holds("methods were found", methods > FACE.size());
+        Due.holds("methods were found", bodies.size() > FACE.size());
+        return bodies;
+    }
+
+    /** How many methods stand open at once, at most, when this one is called; too many, if it is open already. */
+    private static int depthOf(String name, Map<String, String> bodies, Set<String> open) {
+        if (!open.add(name)) {
+            return MOST_DEPTH + 1;
+        }
+        int deepest = 0;
+        Matcher calls = Pattern.compile("\\b(\\w+)\\(").matcher(bodies.get(name));
+        while (calls.find()) {
+            if (bodies.containsKey(calls.group(1))) {
+                deepest = Math.max(deepest, depthOf(calls.group(1), bodies, open));
+            }
+        }
+        open.remove(name);
+        return deepest + 1;
     }
 }
